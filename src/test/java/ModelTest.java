@@ -461,10 +461,21 @@ public final class ModelTest {
     private static final class Draw {
         final Random random;
         final int oddOneIn;
+        /** With few NAMES and FIELDS in use, more of what is written is read again. */
+        final int few;
 
         Draw(long seed) {
             random = new Random(seed);
             oddOneIn = 4 + random.nextInt(60);
+            few = 1 + random.nextInt(6);
+        }
+
+        int name() {
+            return random.nextInt(6) == 0 ? below(6) : below(few);
+        }
+
+        int member(int size) {
+            return random.nextInt(6) == 0 ? below(size) : below(Math.min(few, size));
         }
 
         int below(int size) {
@@ -526,15 +537,15 @@ public final class ModelTest {
         "inField", "element", "inStatic", "reached", "may", "alias", "rounds", "when", "run", "met", "ran"};
 
     private static int[] statementFor(Model m, Draw d) {
-        int kind = d.random.nextInt(5) == 0 ? 0 : d.random.nextInt(4) == 0 ? 7 : d.below(10);
-        int[] a = {d.below(m.methods.size()), kind, 0, 0, 0, 0, 0};
+        int kind = d.random.nextInt(5) == 0 ? 0 : d.random.nextInt(5) == 0 ? 7 : d.below(10);
+        int[] a = {d.member(m.methods.size()), kind, 0, 0, 0, 0, 0};
         for (int i = 0; i < 5; i++) {
             char shape = kind >= 0 && kind < 10 ? Model.SHAPES[kind].charAt(i) : '.';
             a[2 + i] = switch (shape) {
-                case 'n' -> d.below(6);
+                case 'n' -> d.name();
                 case 'c' -> d.below(m.parents.size());
-                case 'f' -> d.below(m.fields.size());
-                case 's', 'g' -> d.below(4);
+                case 'f' -> d.member(m.fields.size());
+                case 's', 'g' -> d.member(4);
                 default -> d.random.nextInt();
             };
         }

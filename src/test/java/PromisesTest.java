@@ -532,6 +532,57 @@ public final class PromisesTest {
         }
     }
 
+    /** What a NAME of METHOD 0 met in any of many long RUNS. */
+    private static int metInMany(PointsToRounds x, int name) {
+        int met = 0;
+        for (int seed = 0; seed < 30; seed++) {
+            due("run", x.run(seed, 300), 1);
+            met |= x.met(0, name);
+        }
+        return met;
+    }
+
+    private static void kindsOfRuns() {
+        promise = "17 run, KINDS";
+        PointsToRounds x = family();
+        say(x, 0, NEW, 1, 2, 0);
+        say(x, 0, NEW, 2, 3, 0);
+        due("NEW", metInMany(x, 1), 1);
+        say(x, 0, STORE, 1, 2, 1);
+        say(x, 0, STORE, 2, 1, 0);
+        say(x, 0, LOAD, 3, 1, 1);
+        say(x, 0, LOAD, 4, 2, 0);
+        due("STORE, LOAD", metInMany(x, 3), 2);
+        due("STORE, LOAD where the FIELD is not", metInMany(x, 4), 0);
+        say(x, 0, LAY, 2, 1, 0);
+        say(x, 0, TAKE, 4, 2, 0);
+        due("LAY, TAKE", metInMany(x, 4), 1);
+        say(x, 0, PUT, 1, 4, 0);
+        say(x, 0, GET, 5, 1, 0);
+        due("PUT, GET", metInMany(x, 5), 1);
+        say(x, 0, MOVE, 5, 2, 0);
+        due("MOVE", metInMany(x, 5), 3);
+        say(x, 0, CAST, 0, 5, 0);
+        due("CAST", metInMany(x, 0), 1);
+    }
+
+    private static void callsOfRuns() {
+        promise = "17 run, CALL";
+        PointsToRounds x = family();
+        x.method(0, 1);
+        x.method(3, 1);
+        say(x, 0, NEW, 1, 2, 0);
+        say(x, 0, NEW, 2, 3, 0);
+        x.statement(0, CALL, 3, 1, 1, 1, 2);
+        x.statement(0, CALL, 4, 2, 1, 1, 2);
+        say(x, 1, MOVE, 5, 2, 0);
+        say(x, 2, MOVE, 5, 1, 0);
+        due("the second given comes back", metInMany(x, 3), 2);
+        due("the first given comes back", metInMany(x, 4), 1);
+        due("RECEIVER of the first FRAME", metInMany(x, 0), 0);
+        due("what is given does not come to the caller", metInMany(x, 5), 0);
+    }
+
     private static void met() {
         promise = "18 met";
         PointsToRounds x = oneMethod();
@@ -627,6 +678,8 @@ public final class PromisesTest {
         run();
         runKeepsContext();
         steps();
+        kindsOfRuns();
+        callsOfRuns();
         met();
         changesForgetRuns();
         ran();
