@@ -1,57 +1,7 @@
 /** Each promise by hand: ordinary inputs, the edges that the document names, and wrong inputs. */
-public final class PromisesTest {
-    private static final int NEW = 0;
-    private static final int MOVE = 1;
-    private static final int LOAD = 2;
-    private static final int STORE = 3;
-    private static final int CAST = 4;
-    private static final int GET = 5;
-    private static final int PUT = 6;
-    private static final int CALL = 7;
-    private static final int TAKE = 8;
-    private static final int LAY = 9;
-
-    private static final int FAR = Integer.MAX_VALUE;
-    private static final int DEEP = Integer.MIN_VALUE;
-
-    private static int wrong = 0;
-    private static String promise = "";
-
-    private static void due(String call, int got, int want) {
-        if (got != want) {
-            wrong++;
-            System.out.println(promise + ": " + call + " answered " + got + ", due is " + want);
-        }
-    }
-
-    /** A STATEMENT of which only the first three numbers count. */
-    private static int say(PointsToRounds x, int method, int kind, int p, int q, int r) {
-        return x.statement(method, kind, p, q, r, FAR, DEEP);
-    }
-
-    /** One CLASS with METHOD 0. */
-    private static PointsToRounds oneMethod() {
-        PointsToRounds x = new PointsToRounds();
-        x.cls(-1);
-        x.method(0, 0);
-        return x;
-    }
-
-    /** CLASSES 0, 1 UNDER 0, 2 UNDER 1, 3 alone; FIELDS 0 of 0, 1 of 1; METHOD 0 of CLASS 0. */
-    private static PointsToRounds family() {
-        PointsToRounds x = new PointsToRounds();
-        x.cls(-1);
-        x.cls(0);
-        x.cls(1);
-        x.cls(-1);
-        x.field(0);
-        x.field(1);
-        x.method(0, 0);
-        return x;
-    }
-
+public final class PromisesTest extends Due {
     private static void newObject() {
-        promise = "1 new object";
+        sentence("1 new object");
         PointsToRounds x = new PointsToRounds();
         due("rounds()", x.rounds(), 0);
         due("inStatic(0)", x.inStatic(0), 0);
@@ -67,7 +17,7 @@ public final class PromisesTest {
     }
 
     private static void cls() {
-        promise = "2 cls";
+        sentence("2 cls");
         PointsToRounds x = new PointsToRounds();
         due("cls(0) of none", x.cls(0), -1);
         for (int i = 0; i < 8; i++) {
@@ -84,7 +34,7 @@ public final class PromisesTest {
     }
 
     private static void field() {
-        promise = "3 field";
+        sentence("3 field");
         PointsToRounds x = new PointsToRounds();
         due("field(0) of none", x.field(0), -1);
         x.cls(-1);
@@ -99,7 +49,7 @@ public final class PromisesTest {
     }
 
     private static void method() {
-        promise = "4 method";
+        sentence("4 method");
         PointsToRounds x = new PointsToRounds();
         due("no CLASS", x.method(0, 0), -1);
         x.cls(-1);
@@ -120,7 +70,7 @@ public final class PromisesTest {
     }
 
     private static void foundMethods() {
-        promise = "4 METHOD FOUND";
+        sentence("4 METHOD FOUND");
         PointsToRounds x = family();
         x.cls(2);
         due("PARENT's", x.method(0, 1), 1);
@@ -138,7 +88,7 @@ public final class PromisesTest {
     }
 
     private static void statement() {
-        promise = "5 statement";
+        sentence("5 statement");
         PointsToRounds x = family();
         due("no METHOD, wrong KIND", say(x, 1, 10, 0, 0, 0), -1);
         due("METHOD -1", say(x, -1, NEW, 0, 0, 0), -1);
@@ -177,7 +127,7 @@ public final class PromisesTest {
     }
 
     private static void statementRoom() {
-        promise = "5 statement, room";
+        sentence("5 statement, room");
         PointsToRounds x = oneMethod();
         for (int i = 0; i < 20; i++) {
             due("NEW", say(x, 0, NEW, 1, 0, 0), i);
@@ -198,7 +148,7 @@ public final class PromisesTest {
     }
 
     private static void mode() {
-        promise = "6 mode";
+        sentence("6 mode");
         PointsToRounds x = oneMethod();
         due("mode(1)", x.mode(1), 0);
         due("mode(1) again", x.mode(1), 1);
@@ -209,7 +159,7 @@ public final class PromisesTest {
     }
 
     private static void clear() {
-        promise = "7 clear";
+        sentence("7 clear");
         PointsToRounds x = family();
         x.method(1, 0);
         say(x, 0, NEW, 3, 2, 0);
@@ -256,7 +206,7 @@ public final class PromisesTest {
     }
 
     private static void points() {
-        promise = "8 points";
+        sentence("8 points");
         PointsToRounds x = twoReceivers();
         due("MODE 0 mixes", x.points(0, 0, 3), 3);
         due("MODE 0 mixes", x.points(1, 0, 5), 3);
@@ -281,7 +231,7 @@ public final class PromisesTest {
     }
 
     private static void kindsOfSets() {
-        promise = "8 points, KINDS";
+        sentence("8 points, KINDS");
         PointsToRounds x = family();
         say(x, 0, NEW, 1, 0, 0);
         say(x, 0, NEW, 1, 2, 0);
@@ -309,7 +259,7 @@ public final class PromisesTest {
     }
 
     private static void callSets() {
-        promise = "8 points, CALL";
+        sentence("8 points, CALL");
         PointsToRounds x = family();
         x.method(1, 1);
         say(x, 0, NEW, 3, 0, 0);
@@ -327,7 +277,7 @@ public final class PromisesTest {
     }
 
     private static void inField() {
-        promise = "9 inField";
+        sentence("9 inField");
         PointsToRounds x = family();
         due("no SITE", x.inField(0, 0), -1);
         say(x, 0, NEW, 3, 3, 0);
@@ -346,7 +296,7 @@ public final class PromisesTest {
     }
 
     private static void element() {
-        promise = "10 element";
+        sentence("10 element");
         PointsToRounds x = oneMethod();
         say(x, 0, NEW, 3, 0, 0);
         say(x, 0, NEW, 4, 0, 0);
@@ -358,7 +308,7 @@ public final class PromisesTest {
     }
 
     private static void inStatic() {
-        promise = "11 inStatic";
+        sentence("11 inStatic");
         PointsToRounds x = oneMethod();
         say(x, 0, NEW, 3, 0, 0);
         say(x, 0, PUT, 0, 3, 0);
@@ -370,7 +320,7 @@ public final class PromisesTest {
     }
 
     private static void reached() {
-        promise = "12 reached";
+        sentence("12 reached");
         PointsToRounds x = twoReceivers();
         x.method(0, 2);
         due("METHOD 0", x.reached(0), 1);
@@ -386,7 +336,7 @@ public final class PromisesTest {
     }
 
     private static void may() {
-        promise = "13 may";
+        sentence("13 may");
         PointsToRounds x = family();
         x.method(0, 1);
         x.method(2, 1);
@@ -418,7 +368,7 @@ public final class PromisesTest {
     }
 
     private static void alias() {
-        promise = "14 alias";
+        sentence("14 alias");
         PointsToRounds x = twoReceivers();
         due("MODE 0", x.alias(0, 3, 0, 4), 1);
         due("of two METHODS", x.alias(0, 1, 1, 0), 1);
@@ -434,7 +384,7 @@ public final class PromisesTest {
     }
 
     private static void rounds() {
-        promise = "15 rounds";
+        sentence("15 rounds");
         PointsToRounds x = oneMethod();
         due("no STATEMENT", x.rounds(), 0);
         say(x, 0, MOVE, 2, 1, 0);
@@ -454,7 +404,7 @@ public final class PromisesTest {
     }
 
     private static void when() {
-        promise = "16 when";
+        sentence("16 when");
         PointsToRounds x = twoReceivers();
         due("NEW", x.when(0, 1, 0), 1);
         due("RECEIVER", x.when(1, 0, 0), 2);
@@ -478,7 +428,7 @@ public final class PromisesTest {
     }
 
     private static void run() {
-        promise = "17 run";
+        sentence("17 run");
         PointsToRounds x = new PointsToRounds();
         due("-2 comes first", x.run(0, 301), -2);
         due("-2 comes first", x.run(0, -1), -2);
@@ -498,7 +448,7 @@ public final class PromisesTest {
 
     /** NAME 0 changes in a called FRAME; the FRAME stays in the CONTEXT of its CALL. */
     private static void runKeepsContext() {
-        promise = "17 run, CONTEXT of a FRAME";
+        sentence("17 run, CONTEXT of a FRAME");
         PointsToRounds x = oneMethod();
         x.method(0, 1);
         x.mode(1);
@@ -514,7 +464,7 @@ public final class PromisesTest {
 
     /** With one STATEMENT it is done where the draw is even; told STEP by STEP. */
     private static void steps() {
-        promise = "17 run, STEPS";
+        sentence("17 run, STEPS");
         int z = 0;
         int[] halves = new int[6];
         for (int i = 0; i < 6; i++) {
@@ -543,7 +493,7 @@ public final class PromisesTest {
     }
 
     private static void kindsOfRuns() {
-        promise = "17 run, KINDS";
+        sentence("17 run, KINDS");
         PointsToRounds x = family();
         say(x, 0, NEW, 1, 2, 0);
         say(x, 0, NEW, 2, 3, 0);
@@ -567,7 +517,7 @@ public final class PromisesTest {
     }
 
     private static void callsOfRuns() {
-        promise = "17 run, CALL";
+        sentence("17 run, CALL");
         PointsToRounds x = family();
         x.method(0, 1);
         x.method(3, 1);
@@ -584,7 +534,7 @@ public final class PromisesTest {
     }
 
     private static void met() {
-        promise = "18 met";
+        sentence("18 met");
         PointsToRounds x = oneMethod();
         due("before any RUN", x.met(0, 0), 0);
         say(x, 0, NEW, 1, 0, 0);
@@ -610,7 +560,7 @@ public final class PromisesTest {
     }
 
     private static void changesForgetRuns() {
-        promise = "18 met, 19 ran: before any RUN since a change";
+        sentence("18 met, 19 ran: before any RUN since a change");
         for (int change = 0; change < 6; change++) {
             PointsToRounds x = oneMethod();
             say(x, 0, NEW, 1, 0, 0);
@@ -634,7 +584,7 @@ public final class PromisesTest {
     }
 
     private static void ran() {
-        promise = "19 ran";
+        sentence("19 ran");
         PointsToRounds x = oneMethod();
         due("ran(3)", x.ran(3), -2);
         due("ran(-1)", x.ran(-1), -2);
@@ -683,9 +633,6 @@ public final class PromisesTest {
         met();
         changesForgetRuns();
         ran();
-        System.out.println(wrong == 0 ? "all answers are as due" : wrong + " answers are not as due");
-        if (wrong != 0) {
-            System.exit(1);
-        }
+        end();
     }
 }
