@@ -4,6 +4,7 @@ import java.lang.reflect.Method;
 import java.lang.reflect.Modifier;
 import java.nio.file.Files;
 import java.nio.file.Path;
+import java.util.List;
 import java.util.Set;
 import java.util.TreeSet;
 import java.util.regex.Matcher;
@@ -46,6 +47,7 @@ public final class FaceTest {
                 }
             } else {
                 want(Modifier.isPrivate(m.getModifiers()), m.getName() + " is neither public nor private");
+                isNotOfFace(m);
             }
         }
         want(seen.equals(new TreeSet<>(FACE)), "the face is " + seen);
@@ -66,13 +68,19 @@ public final class FaceTest {
             want(c.getDeclaredFields().length <= 20, c.getName() + " has more than twenty fields");
             for (Method m : c.getDeclaredMethods()) {
                 want(m.getParameterCount() <= 7, m.getName() + " takes more than seven");
-                want(!FACE.contains(m.getName() + "/" + m.getParameterCount()), m.getName() + " is of the face");
+                isNotOfFace(m);
             }
         }
         for (Class<?> c : PointsToRounds.class.getDeclaredClasses()) {
             staticsAreConstants(c);
         }
         staticsAreConstants(PointsToRounds.class);
+    }
+
+    private static void isNotOfFace(Method m) {
+        for (String name : FACE) {
+            want(!name.startsWith(m.getName() + "/"), m.getName() + " bears the name of a public one");
+        }
     }
 
     private static void staticsAreConstants(Class<?> c) {
@@ -97,10 +105,25 @@ public final class FaceTest {
         }
     }
 
+    /** A method begins at a line with an opening brace and ends at the next brace as far to the left. */
+    private static void methodsAreShort() throws Exception {
+        List<String> lines = Files.readAllLines(SOURCE);
+        for (int start = 0; start < lines.size(); start++) {
+            Matcher head = Pattern.compile("( +)[\\w\\[\\] ]*\\w\\([^()]*\\) \\{").matcher(lines.get(start));
+            if (!head.matches()) continue;
+            int end = start;
+            while (end < lines.size() && !lines.get(end).equals(head.group(1) + "}")) {
+                end++;
+            }
+            want(end - start < 60, "sixty lines or more: " + lines.get(start));
+        }
+    }
+
     public static void main(String[] args) throws Exception {
         face();
         insideClasses();
         source();
+        methodsAreShort();
         System.out.println(wrong == 0 ? "the face is as told" : wrong + " faults in the face");
         if (wrong != 0) {
             System.exit(1);
