@@ -14,8 +14,8 @@ import java.util.regex.Matcher;
 import java.util.regex.Pattern;
 
 /**
- * What README.md says, tried: its examples are one program, compiled as it stands there, each call
- * with the answer that it shows; its table and its lists are held against the class and the files.
+ * What README.md says, tried: its examples are compiled as one program, changed only so that the
+ * answer of each call is kept; its table and its lists are held against the class and the files.
  */
 public final class ReadmeTest extends Due {
     private static final Path README = Path.of("README.md");
